@@ -758,14 +758,14 @@ public final class HayWriting {
         int glyphsOver(int shape, int more) {
             int found = 0;
             for (int glyph = 0; glyph < glyphs; glyph++) {
-                if (isPartOf(glyphShape[glyph], shape, more)) {
+                if (growsInto(shape, glyphShape[glyph], more)) {
                     found |= 1 << glyph;
                 }
             }
             return found;
         }
 
-        boolean isPartOf(int whole, int shape, int more) {
+        boolean growsInto(int shape, int whole, int more) {
             return whole != 0 && (whole & shape) == shape && Integer.bitCount(whole ^ shape) <= more;
         }
 
@@ -2209,7 +2209,7 @@ public final class HayWriting {
             }
             int step = told.stepOf(way);
             for (int k = 0; k < length; k++) {
-                if (!script.isPartOf(script.shapeIn(word, k), now.shape[field + k * step], more)) {
+                if (!script.growsInto(now.shape[field + k * step], script.shapeIn(word, k), more)) {
                     return false;
                 }
             }
