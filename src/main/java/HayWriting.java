@@ -660,7 +660,7 @@ public final class HayWriting {
         }
 
         boolean hasField(int field) {
-            return field >= 0 && field < fields() && field < MOST_FIELDS;
+            return field >= 0 && field < wide * high && field < MOST_FIELDS;
         }
 
         boolean hasOwner(int owner) {

@@ -88,7 +88,7 @@ public final class ComparedTest {
             }
         }
         int n = below(20) == 0 ? below(text.length() + 40) : text.length();
-        String fault = compare("text " + n, hay.text(n), model.text(n));
+        String fault = told(1, "text " + n, hay.text(n), model.text(n));
         fault = fault != null ? fault : compare("fault 0", hay.fault(0), model.fault(0));
         return fault != null ? fault : compare("fault 1", hay.fault(1), model.fault(1));
     }

@@ -44,6 +44,8 @@ public final class FieldsTest {
             "read 1 0 -> 2", "read 2 0 -> 3", "stack 0 1 -> true", "read 0 0 -> 0", "read 2 0 -> 2",
             "stack 0 511 -> true", "read 2 0 -> 1", "read 0 0 -> 0", "read 1 0 -> 0", "read 3 0 -> -1",
             "read -1 0 -> -1", "read 0 8 -> -1", "read 0 -1 -> -1");
+        Told.text("nine glyphs", "glyph a 1;glyph b 2;glyph c 3;glyph d 4;glyph e 5;glyph f 6;glyph g 7;glyph h 8;"
+            + "glyph i 9;hill h all;").ask("stack 0 9 -> true", "read 0 0 -> 9", "stack 0 10 -> true", "read 0 0 -> 0");
         Told.text("taken", PLAIN).ask("taken 0 1 -> 1", "taken 1 3 -> 2", "taken 1 2 -> 2", "taken 0 3 -> 3",
             "taken 2 3 -> 3", "taken 2 1 -> 1", "taken 0 4 -> 0", "taken 0 0 -> -1", "taken 0 27 -> -1",
             "taken 3 1 -> -1", "taken -1 1 -> -1");
@@ -108,6 +110,7 @@ public final class FieldsTest {
             "law 5 -> 2121", "law 2 -> 20", "stack 2 5 -> true", "law 2 -> 2020", "stack 0 9 -> true", "law 0 -> 2001",
             "stack 0 10 -> true", "law 0 -> 2001", "stack 0 12 -> true", "law 0 -> 2001", "stack 0 17 -> true",
             "law 0 -> 2001", "stack 0 18 -> true", "law 0 -> 2000", "law 6 -> " + ERROR, "law -1 -> " + ERROR);
+        Told.text("a plain of one column", "plain 1 6;law eat row * 10 + col;").ask("law 5 -> 50", "law 1 -> 10");
         Told.text("day and left", names + "day * 100 + left;").ask("law 0 -> 99", "law 4 -> 7", "days 3 -> 3",
             "law 0 -> 399", "law 4 -> 304", "days 4 -> 7", "law 4 -> 700", "days 4 -> 11", "law 4 -> 1100",
             "law 0 -> 1199");
@@ -172,6 +175,9 @@ public final class FieldsTest {
             "days 2 -> 4", "count 9 -> 34", "days 1 -> 5", "look 3 0 -> 3", "count 9 -> 33");
         Told.text("rain just as much as the number", "seed 5;rain 55;law eat 0;").ask("stack 9 1 -> true",
             "stack 5 257 -> true", "days 2 -> 2", "count 9 -> 3", "days 1 -> 3", "look 5 0 -> 1", "look 9 0 -> 1");
+        // From seed 0 the first number is 0, the second one a multiple of twelve.
+        Told.text("little rain", "rain 1;law eat 0;").ask("stack 0 257 -> true", "days 1 -> 1", "look 0 0 -> 1");
+        Told.text("no rain", "law eat 0;").ask("stack 0 257 -> true", "days 1 -> 1", "look 0 0 -> 257");
         Told.text("rain on an empty field", "seed 5;rain 60;law eat 0;").ask("stack 5 3 -> true", "days 1 -> 1",
             "look 5 0 -> 3", "look 9 0 -> 0", "days 1 -> 2", "look 5 0 -> 1");
         Told.text("rain behind the sheep", "seed 5;rain 60;").ask("stack 9 448 -> true", "days 1 -> 1",

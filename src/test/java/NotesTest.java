@@ -60,6 +60,9 @@ public final class NotesTest {
             "tried 2 0 0 -> 4", "tried 4 0 0 -> -1", "tried -1 0 0 -> -1", "tried 0 1 0 -> -1", "tried 2 -1 0 -> -1",
             "tried 3 1 0 -> -1", "tried 3 -1 0 -> -1", "tried 0 0 100 -> -1", "tried 0 0 -1 -> -1", "count 9 -> 4",
             "count 7 -> 0");
+        Told.text("an owner's fields from the first to the last", "plain 8 6;owner o 1 9;owner p 1 9;strip o 0 0 7 5;"
+            + "strip p 1 1 1 1;").ask("stack 0 1 -> true", "stack 9 3 -> true", "stack 47 7 -> true", "tried 3 0 0 -> 2",
+            "tried 3 1 0 -> 4", "tried 3 1 9 -> 0", "tried 3 2 0 -> -1");
         // From seed 5 on: 55 of a hundred, field 9 of twelve, 16, field 5.
         Told.text("tried with rain", "seed 5;rain 60;law eat 0;").ask("stack 9 3 -> true", "stack 5 3 -> true",
             "tried 2 0 9 -> 4", "tried 0 0 1 -> 3", "tried 1 0 2 -> 2", "tried 1 0 2 -> 2", "days 1 -> 1",

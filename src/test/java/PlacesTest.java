@@ -61,6 +61,11 @@ public final class PlacesTest {
         Told.text("none", "glyph a 7;word x 1;word a 9;hill h all;purse 2;").ask("pays 0 0 -> -2147483648");
         Told.text("a loss", "glyph a 1;glyph b 7;word b 0;word a 0;hill h all;").ask("pays 0 0 -> -1", "pays 0 1 -> 1",
             "pays 0 2 -> 0", "pays 0 3 -> 0");
+        Told late = Told.text("pays on the last day", "glyph a 1;glyph b 2;word a 1;word b 5;hill h all;");
+        for (int day = 111; day <= 999; day += 111) {
+            late.ask("days 99 -> " + (day - 12), "days 12 -> " + day);
+        }
+        late.ask("pays 0 0 -> 4", "pays 0 1 -> 1");
         Told.text("what the purse has not", "plain 2 1;owner o 9 9;strip o 0 0 0 0;glyph a 1;word a 2;hill h all;"
             + "purse 8;law eat 0;").ask("pays 0 0 -> 197", "pays 0 2 -> 1", "stack 1 2 -> true",
             "pays 0 0 -> -2147483648");

@@ -43,6 +43,10 @@ public final class TextTest {
             .feed("wash r 1;sign s r;").ask("text 18 -> 2", "fault 0 -> 0", "fault 1 -> -1", "count 7 -> 0",
                 "count 9 -> 0", "count 16 -> 0", "count 10 -> 0", "count 11 -> 0", "count 12 -> 0", "back -> -1",
                 "count 5 -> 0", "undo -> -1");
+        new Told("a number ends with the text").feed("plain 88 1;").ask("text 7 -> -1", "fault 0 -> 1", "fault 1 -> 7");
+        new Told("a word ends with the text").feed("purse 1;word abcdefg 1;").ask("text 19 -> -1", "fault 0 -> 1",
+            "fault 1 -> 19");
+        new Told("a sign ends with the text").feed("law eat 1<=>").ask("text 10 -> -1", "fault 0 -> 1", "fault 1 -> 10");
         Told.text("no blanks and many", "plain2\n 3;purse 007;\n\n  ").ask("count 0 -> 2", "count 1 -> 3",
             "count 8 -> 7");
     }

@@ -94,7 +94,7 @@ final class Texts {
     }
 
     private void script() {
-        int most = 1 + below(8);
+        int most = 1 + below(9);
         int mask = below(2) == 0 ? 511 : 0;
         List<Integer> shapes = new ArrayList<>();
         for (int i = 0; i < most; i++) {

@@ -79,6 +79,8 @@ public final class WashingTest {
         Told.text("likeliest", script).ask("likeliest 0 0 3 -> 1", "likeliest 0 0 0 -> -2", "stack 1 8 -> true",
             "likeliest 0 0 3 -> 0", "likeliest 1 0 3 -> 2", "likeliest 2 0 9 -> -2", "likeliest 0 0 10 -> -1",
             "likeliest 0 2 0 -> -1", "likeliest 6 0 0 -> -1", "likeliest 0 0 -1 -> -1", "likeliest -1 0 0 -> -1");
+        Told.text("nothing more", script).ask("stack 0 64 -> true", "stack 1 64 -> true", "maystand 0 0 0 -> 2",
+            "likeliest 0 0 0 -> 1");
         Told.text("worth nothing", "glyph a 1;word a 0;").ask("likeliest 0 0 1 -> 0");
     }
 }
