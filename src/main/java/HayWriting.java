@@ -674,6 +674,15 @@ public final class HayWriting {
             return cutOn[field] > day ? cutOn[field] - day : 0;
         }
 
+        void addOwner(int name, int priceOfStack, int cutDay) {
+            if (owners < MOST_OWNERS) {
+                ownerName[owners] = name;
+                price[owners] = priceOfStack;
+                cut[owners] = cutDay;
+                owners++;
+            }
+        }
+
         void giveField(int x, int y, int owner) {
             int field = y * wide + x;
             if (hasField(field) && hasOwner(owner)) {
@@ -1530,10 +1539,7 @@ public final class HayWriting {
             if (cut < 0) {
                 return false;
             }
-            told.ownerName[told.owners] = name;
-            told.price[told.owners] = price;
-            told.cut[told.owners] = cut;
-            told.owners++;
+            told.addOwner(name, price, cut);
             return true;
         }
 

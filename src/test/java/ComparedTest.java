@@ -20,7 +20,7 @@ public final class ComparedTest {
     }
 
     public static void main(String[] args) {
-        int runs = args.length > 0 ? Integer.parseInt(args[0]) : 400;
+        int runs = args.length > 0 ? Integer.parseInt(args[0]) : 1500;
         int first = args.length > 1 ? Integer.parseInt(args[1]) : 0;
         int wrong = 0;
         for (int seed = first; seed < first + runs && wrong < 5; seed++) {
