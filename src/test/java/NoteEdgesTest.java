@@ -112,6 +112,15 @@ public final class NoteEdgesTest {
             "note 1 0 3 -> 1", "tales -> 2", "note 0 0 3 -> 2", "tales -> 0");
     }
 
+    static void promise37AtEachPlace() {
+        Told.of(PLAIN).ask("note 0 2 1 -> 0", "tales -> 3", "note 0 3 2 -> 1", "tales -> 1", "tale 0 0 -> 0", "tale 0 1 -> 2",
+            "tale 0 2 -> 0");
+        Told.of(PLAIN).ask("note 0 7 1 -> 0", "tales -> 2", "tale 0 0 -> 1", "tale 0 1 -> 3", "tale 0 2 -> 1", "tale 1 0 -> 1",
+            "tale 1 1 -> 6", "tale 1 2 -> 0");
+        // Where a stack costs nothing, too.
+        Told.of("plain 1 1;owner o 0 1;strip o 0 0 0 0;glyph a 1;word a 1;").ask("tales -> 2");
+    }
+
     // Promise 38
 
     static void promise38NoSuchOnes() {
@@ -210,7 +219,7 @@ public final class NoteEdgesTest {
             more.ask("stack 7 " + shape + " -> true", "count 12 -> " + Math.min(20, shape + 1));
         }
         for (int left = 19; left >= 0; left--) {
-            more.ask("undo -> " + left);
+            more.ask("undo -> " + left, "look 7 0 -> " + left, "look 0 0 -> 7", "count 8 -> 24");
         }
         more.ask("look 7 0 -> 0", "look 0 0 -> 7", "count 8 -> 24").refuse("undo -> -1");
     }

@@ -90,6 +90,22 @@ public final class PlaceEdgesTest {
             "crossed 0 1 1 -> 3", "crossed 0 1 2 -> 5");
     }
 
+    static void promise18ForNothing() {
+        Told.of("plain 2 2;glyph a 1;glyph b 2;word ab 1;word ba 1;").ask("stack 0 1 -> true", "stack 1 2 -> true",
+            "crossed 0 1 0 -> 1", "stack 3 1 -> true", "crossed 0 1 0 -> 0", "crossed 0 1 1 -> 0", "crossed 0 1 2 -> 1");
+    }
+
+    static void promise18AtTheEdgesOfThePlain() {
+        Told.of("plain 1 3;glyph a 1;glyph b 2;word a 1;word ba 1;").ask("crossed 0 1 0 -> 2", "crossed 0 1 1 -> 1",
+            "crossed 0 1 2 -> 0").refuse("crossed 1 0 0 -> -2");
+        // All but the last two columns and rows is taken.
+        Told hay = Told.of("plain 4 3;glyph a 1;glyph b 2;glyph c 4;word ba 1;word ca 1;");
+        for (int field : new int[] {0, 1, 2, 4, 5, 6, 8, 9}) {
+            hay.ask("stack " + field + " 256 -> true");
+        }
+        hay.ask("crossed 0 1 0 -> 3", "crossed 0 1 1 -> 10", "crossed 0 1 2 -> 7");
+    }
+
     static void promise18FieldsThatOthersStandIn() {
         Told.of("plain 2 2;glyph a 1;glyph b 2;word ab 1;word ba 1;").ask("crossed 0 1 0 -> 3", "crossed 0 1 2 -> 1",
             "stack 3 1 -> true", "crossed 0 1 0 -> 2", "stack 3 4 -> true").refuse("crossed 0 1 0 -> -2");
@@ -108,6 +124,8 @@ public final class PlaceEdgesTest {
     static void promise19ItCantBeSetThere() {
         Told.of(PLAIN).ask("life 0 2 0 0 -> 1", "life 0 3 1 0 -> 1").refuse("life 0 3 0 0 -> -2", "life 0 4 1 0 -> -2",
             "life 2 0 0 0 -> -2").ask("stack 0 3 -> true").refuse("life 0 0 0 0 -> -2");
+        // It stands there already, COST 0.
+        Told.of("glyph a 7;word a 1;hill h all;law eat 0;").ask("stack 0 7 -> true", "life 0 0 0 0 -> 99");
         // The purse isn't asked, and nothing is SET.
         Told.of("glyph a 7;word a 1;hill h all;purse 0;law eat 0;").refuse("life 0 0 0 0 -> 99");
     }
@@ -179,6 +197,13 @@ public final class PlaceEdgesTest {
             "pays 0 3 -> 0");
     }
 
+    static void promise20DownToo() {
+        Told.of("plain 1 2;glyph a 1;glyph b 2;word ab 3;hill h all;").ask("pays 0 0 -> 1", "pays 0 1 -> 0", "pays 0 2 -> 0",
+            "pays 0 3 -> 1");
+        Told.of("plain 2 3;owner o 0 9;strip o 1 1 1 2;glyph a 1;glyph b 2;word ab 3;hill h all;").ask("pays 0 0 -> 3",
+            "pays 0 2 -> 3", "pays 0 3 -> 1");
+    }
+
     static void promise20ALossIsAnswered() {
         Told.of("plain 1 1;glyph a 511;word a 0;hill h all;").ask("pays 0 0 -> -9", "pays 0 1 -> 0");
         // Not READ at all from there: LIFE 0.
@@ -191,6 +216,13 @@ public final class PlaceEdgesTest {
         Told.of("plain 1 1;glyph a 1;word a 99;hill h all;law eat 0;").ask("pays 0 0 -> 9800");
         Told.of("plain 1 1;glyph a 1;word a 99;hill h all;law eat 0;").ask(DAYS_TO_891).ask("days 99 -> 990",
             "days 9 -> 999", "pays 0 0 -> 98");
+        // A worthier WORD or a cheaper PLACE behind one that lives as long.
+        Told.of("plain 2 1;owner o 0 9;strip o 1 0 1 0;glyph a 1;glyph b 2;word a 50;word b 99;hill h all;law eat 0;").ask(
+            "pays 0 0 -> 9800", "pays 0 1 -> 1", "pays 0 2 -> 0");
+        Told.of("plain 2 1;glyph a 1;glyph b 2;word a 1;word b 2;hill h all;").ask(DAYS_TO_891).ask("days 99 -> 990",
+            "days 8 -> 998", "pays 0 0 -> 1", "pays 0 1 -> 1", "days 1 -> 999", "pays 0 0 -> 1", "pays 0 1 -> 1");
+        Told.of("plain 2 1;glyph a 3;glyph b 6;word a 1;word b 2;hill h all;law eat day < 999;").ask(DAYS_TO_891).ask(
+            "days 99 -> 990", "days 9 -> 999", "pays 0 0 -> 0", "pays 0 1 -> 1");
     }
 
     // Promise 21
@@ -220,6 +252,8 @@ public final class PlaceEdgesTest {
         Told.of("plain 3 1;owner o 99 9;strip o 2 0 2 0;glyph a 1;word aa 1;").ask("owed 0 0 -> 1", "look 2 3 -> 99",
             "cost 0 1 0 -> 100");
         Told.of("plain 3 1;owner o 0 9;strip o 2 0 2 0;glyph a 1;word aa 1;").ask("owed 0 0 -> 1");
+        // For nothing without the owner too.
+        Told.of("plain 2 1;owner o 5 9;strip o 1 0 1 0;glyph a 1;word a 1;").ask("stack 0 1 -> true", "owed 0 0 -> 0");
         // An owner without FIELDS is worth nothing.
         Told.of("plain 3 1;owner o 5 9;glyph a 1;word aa 1;").ask("owed 0 0 -> 0");
         Told.of("plain 3 1;owner o 5 9;owner p 7 9;strip o 0 0 0 0;strip p 1 0 1 0;glyph a 511;word a 1;").ask(
@@ -283,6 +317,23 @@ public final class PlaceEdgesTest {
             "shared 0 1 0 -> 1", "shared 0 1 1 -> 2", "shared 0 1 3 -> 0", "shared 0 1 2 -> 0", "shared 0 1 4 -> 1");
     }
 
+    static void promise22EachWayAndPlace() {
+        // Down and down, across and down, down and across; the second one at the very first PLACE.
+        Told.of("plain 1 3;glyph a 1;glyph b 2;word ab 1;word ba 1;").ask("shared 0 1 0 -> 3", "shared 0 1 1 -> 0",
+            "shared 0 1 2 -> 1", "shared 0 1 3 -> 1", "shared 0 1 4 -> 1");
+        Told.of("plain 2 1;glyph a 1;glyph b 2;word b 1;word ab 1;").ask("shared 0 1 0 -> 2", "shared 0 1 1 -> 1",
+            "shared 0 1 2 -> 0", "shared 0 1 3 -> 0", "shared 0 1 4 -> 0");
+        Told.of("plain 2 3;glyph a 1;glyph b 2;glyph c 4;word abc 1;word bc 1;").ask("shared 0 1 0 -> 3", "shared 0 1 1 -> 0",
+            "shared 0 1 2 -> 2", "shared 0 1 3 -> 1", "shared 0 1 4 -> 1");
+        Told.of("plain 2 3;glyph a 1;glyph b 2;glyph c 4;word abc 1;word ba 1;").ask("shared 0 1 0 -> 4", "shared 0 1 1 -> 0",
+            "shared 0 1 2 -> 2", "shared 0 1 3 -> 1", "shared 0 1 4 -> 0");
+    }
+
+    static void promise22ForNothing() {
+        Told.of("plain 2 1;glyph a 1;glyph b 2;word a 1;word b 1;").ask("stack 0 2 -> true", "stack 1 1 -> true",
+            "shared 0 1 0 -> 0", "shared 0 1 1 -> 1", "shared 0 1 2 -> 0", "shared 0 1 5 -> 0", "shared 0 1 6 -> 0");
+    }
+
     static void promise22ThePurseIsntAsked() {
         Told.of("plain 2 1;glyph a 1;glyph b 2;word a 1;word b 1;purse 0;").refuse("shared 0 1 0 -> 2");
     }
@@ -337,6 +388,12 @@ public final class PlaceEdgesTest {
         // Eaten by then: both are had for a DAY each.
         Told.of("plain 1 1;glyph a 1;glyph b 2;word a 1;word b 5;hill h all;").ask("summer 0 3 4 0 -> 6",
             "summer 0 3 4 1 -> 0", "summer 0 3 4 2 -> 1");
+    }
+
+    static void promise23DownToo() {
+        Told.of("plain 1 2;glyph a 1;glyph b 2;word ab 3;hill h all;law eat 0;").ask("summer 0 1 2 0 -> 6");
+        Told.of("plain 2 3;owner o 0 9;strip o 1 1 1 2;glyph a 1;glyph b 2;word ab 3;hill h all;law eat 1 - col;").ask(
+            "summer 0 1 9 0 -> 27");
     }
 
     static void promise23ThePurseIsntAskedNorPaid() {

@@ -78,6 +78,24 @@ public final class TextEdgesTest {
         new Told().feed("purse 7;").ask("text 7 -> -1", "fault 0 -> 1", "fault 1 -> 7", "count 8 -> 100");
     }
 
+    static void promise03WhatIsBehindThemDoesntBelongToAToken() {
+        new Told().feed("purse 99999;").ask("text 10 -> -1", "fault 0 -> 1", "fault 1 -> 10");
+        new Told().feed("word abcdefg 1;").ask("text 11 -> -1", "fault 0 -> 1", "fault 1 -> 11");
+        new Told().feed("purse 7;plainn").ask("text 13 -> -1", "fault 0 -> 1", "fault 1 -> 13");
+        new Told().feed("law eat 1<=").ask("text 10 -> -1", "fault 0 -> 1", "fault 1 -> 10");
+        // A longer TEXT ahead doesn't show through.
+        new Told().feed("purse 99999;").ask("text 12 -> -1").feed("purse 7").ask("text 7 -> -1", "fault 0 -> 1",
+            "fault 1 -> 7");
+    }
+
+    static void promise03SevenHundredTokens() {
+        new Told().feed(";".repeat(700)).ask("text 700 -> -1", "fault 0 -> 1", "fault 1 -> 0");
+        new Told().feed("law eat " + "(1".repeat(346)).ask("text 700 -> -1", "fault 0 -> 1", "fault 1 -> 10");
+        String dense = "law eat 1" + "*1".repeat(31) + ";";
+        Told.of(dense + " ".repeat(700 - dense.length())).ask("law 0 -> 1", "count 6 -> 63");
+        Told.fault(dense + "(".repeat(700 - dense.length()), 1, dense.length());
+    }
+
     static void promise03NoBytesAreATextWithoutLines() {
         Told.of("plain 2 1;purse 7;").ask("stack 0 1 -> true", "keep -> 0").feed("#").ask("text 0 -> 0", "count 0 -> 4",
             "count 1 -> 3", "count 8 -> 100", "count 9 -> 0", "feed 0 0 0 0 0 -> 20", "fault 0 -> 0", "fault 1 -> -1")
@@ -98,6 +116,31 @@ public final class TextEdgesTest {
         told.refuse("back -> -1", "undo -> -1", "known 1 -> false", "lower 0 -> -1");
         // All are KNOWN again, also those to come, and the rain begins anew.
         told.ask("note 0 0 1 -> 0", "count 11 -> 1", "stack 9 7 -> true", "days 1 -> 1", "look 9 0 -> 3");
+    }
+
+    static void promise03NothingOfTheTextAheadIsLeft() {
+        String all = "plain 8 6;" + OWNERS + "strip a 0 0 7 5;".repeat(9) + GLYPHS + WORDS + HILLS + COLOURS + SIGNS + LINKS
+            + "purse 1;seed 5;rain 99;law eat 0;";
+        Told told = Told.of(all).feed(all).ask("text " + all.length() + " -> 49").feed(" ").ask("text 1 -> 0");
+        for (int what = 0; what <= 16; what++) {
+            told.ask("count " + what + " -> " + (what == 0 ? 4 : what == 1 ? 3 : what == 8 ? 100 : 0));
+        }
+        told.ask("look 0 2 -> -1", "look 0 3 -> 1", "look 0 4 -> 99", "shape 1 -> 0", "named 1 33554432 -> -1");
+        // No rain, no law: the first FIELD is eaten.
+        told.ask("stack 0 511 -> true", "stack 1 511 -> true", "days 9 -> 9", "look 0 0 -> 0", "look 1 0 -> 511");
+        // The seed is 0 again, from which it rains on the first FIELD on the first DAY.
+        Told.of("seed 99999;").feed("rain 1;law eat 0;").ask("text 17 -> 2", "stack 0 3 -> true", "days 1 -> 1",
+            "look 0 0 -> 1");
+    }
+
+    static void promise03NothingOfAFaultyTextIsLeft() {
+        String law = "law eat ((((((((1))))))));";
+        Told.of("").feed("law eat ((((((((1+2*").ask("text 20 -> -1").feed(law).ask("text " + law.length() + " -> 1",
+            "law 0 -> 1", "count 6 -> 1");
+        Told.of("").feed("law eat not 1 and 0 or").ask("text 22 -> -1").feed("law eat 7;").ask("text 10 -> 1", "law 0 -> 7",
+            "count 6 -> 1");
+        Told.of("").feed("owner o 1 1;purse 1;#").ask("text 21 -> -1", "count 2 -> 0", "count 8 -> 100").feed(
+            "owner o 1 1;purse 2;").ask("text 20 -> 2", "count 2 -> 1", "count 8 -> 2");
     }
 
     static void promise03AnswersHowManyLines() {
@@ -727,6 +770,20 @@ public final class TextEdgesTest {
         Told.fault("law eat (1)^(1);", 1);
         Told.fault("law eat 1^(1);", 1);
         Told.fault("law eat (1)^1;", 1);
+    }
+
+    static void promise03WhatBindsMore() {
+        Told.of("law eat 1 or 1 and 0;").ask("law 0 -> 1");
+        Told.of("law eat 0 and 0 or 1;").ask("law 0 -> 1");
+        Told.of("law eat not 0 and 0;").ask("law 0 -> 0");
+        Told.of("law eat not 0 or 1;").ask("law 0 -> 1");
+        Told.of("law eat not 2 = 3;").ask("law 0 -> 1");
+        Told.of("law eat 1 + 1 < 1 + 2;").ask("law 0 -> 1");
+        Told.of("law eat 2 + 3 * 4 - 6 / 2;").ask("law 0 -> 11");
+        Told.of("law eat 9 - 4 - 3;").ask("law 0 -> 2");
+        Told.of("law eat 8 / 4 / 2;").ask("law 0 -> 1");
+        Told.of("law eat 7 / 2 * 2;").ask("law 0 -> 6");
+        Told.of("law eat 9 - 4 + 3;").ask("law 0 -> 8");
     }
 
     static void promise03NamesOfE() {

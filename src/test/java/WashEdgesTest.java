@@ -197,6 +197,29 @@ public final class WashEdgesTest {
         Told.of(late + "link x y 20;").ask("stack 0 8 -> true", "news 1 0 -> 0", "news 1 1 -> 0");
     }
 
+    static void promise30EachWordFromEachHill() {
+        // Each of six WORDS is READ from each of three HILLS on a DAY of its own; two letters, so in one PLACE.
+        Told hay = Told.of("plain 2 1;glyph a 1;glyph b 2;glyph c 4;word aa 1;word ab 1;word ac 1;word ba 1;word bb 1;"
+            + "word bc 1;hill x all;hill y low;hill z high;law eat 0;");
+        for (int word = 0; word < 6; word++) {
+            hay.ask("news " + word + " 2 -> -2", "stack 0 " + (word < 3 ? 1 : 2) + " -> " + (word % 3 == 0),
+                "stack 1 " + (1 << word % 3) + " -> true", "news " + word + " 2 -> " + word, "days 1 -> " + (word + 1));
+        }
+        for (int word = 0; word < 6; word++) {
+            hay.ask("news " + word + " 0 -> " + word, "news " + word + " 1 -> " + word, "news " + word + " 2 -> " + word);
+        }
+    }
+
+    static void promise30AsInAnImage() {
+        Told.of(HILLS).ask("stack 0 9 -> true", "days 1 -> 1", "keep -> 1", "stack 0 8 -> true", "days 1 -> 2",
+            "news 1 0 -> 1", "news 0 0 -> 0", "back -> 1", "news 0 0 -> 0", "news 1 0 -> 3", "stack 0 0 -> true",
+            "news 0 0 -> 0");
+        Told.of(HILLS).ask("keep -> 0", "stack 0 9 -> true", "days 1 -> 1", "news 0 0 -> 0", "back -> 0",
+            "news 0 0 -> -2");
+        Told.of(HILLS).ask("stack 0 9 -> true", "days 1 -> 1", "stack 0 0 -> true", "news 0 0 -> 0", "keep -> 1",
+            "days 1 -> 2", "back -> 1", "news 0 0 -> 0");
+    }
+
     static void promise30ItMayBeToCome() {
         Told.of(HILLS).ask("stack 0 9 -> true", "news 0 1 -> 3", "days 9 -> 9", "news 0 1 -> 3");
         Told hay = Told.of("glyph b 8;glyph a 9;word a 1;hill x all;hill y low;link x y 20;law eat 0;");
