@@ -40,6 +40,22 @@ public final class TextEdgesTest {
         new Told().ask("text 0 -> 0", "fault 0 -> 0", "fault 1 -> -1", "count 0 -> 4", "count 1 -> 3");
     }
 
+    static void promise01GoodFor512Calls() {
+        Told told = new Told();
+        HayWriting hay = new HayWriting();
+        // Five calls each: stacks that go up and down, a DAY at last.
+        for (int call = 1; call <= 510; call += 5) {
+            int day = call / 5;
+            told.check("days 0", Told.answer(hay, "days 0"), "" + day);
+            told.check("stack", Told.answer(hay, "stack 0 511"), "true");
+            told.check("undo", Told.answer(hay, "undo"), "0");
+            told.check("count 9", Told.answer(hay, "count 9"), "0");
+            told.check("days 1", Told.answer(hay, "days 1"), "" + (day + 1));
+        }
+        told.check("the 511th call", Told.answer(hay, "stack 0 511"), "true");
+        told.check("the 512th call", Told.answer(hay, "look 0 1"), "9");
+    }
+
     // Promise 2
 
     static void promise02FeedUpTo700Bytes() {

@@ -117,7 +117,7 @@ final class Told {
         return this;
     }
 
-    private void check(String call, String got, String due) {
+    void check(String call, String got, String due) {
         asked++;
         if (!got.equals(due)) {
             miss(call, got, due);
