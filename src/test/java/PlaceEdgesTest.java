@@ -93,6 +93,9 @@ public final class PlaceEdgesTest {
     static void promise18ForNothing() {
         Told.of("plain 2 2;glyph a 1;glyph b 2;word ab 1;word ba 1;").ask("stack 0 1 -> true", "stack 1 2 -> true",
             "crossed 0 1 0 -> 1", "stack 3 1 -> true", "crossed 0 1 0 -> 0", "crossed 0 1 1 -> 0", "crossed 0 1 2 -> 1");
+        // Of several for nothing the first, too.
+        Told.of("plain 3 1;glyph a 1;word aa 1;word a 1;").ask("stack 0 1 -> true", "stack 1 1 -> true", "stack 2 1 -> true",
+            "crossed 0 1 0 -> 0", "crossed 0 1 1 -> 0", "crossed 0 1 2 -> 0");
     }
 
     static void promise18AtTheEdgesOfThePlain() {
@@ -202,6 +205,12 @@ public final class PlaceEdgesTest {
             "pays 0 3 -> 1");
         Told.of("plain 2 3;owner o 0 9;strip o 1 1 1 2;glyph a 1;glyph b 2;word ab 3;hill h all;").ask("pays 0 0 -> 3",
             "pays 0 2 -> 3", "pays 0 3 -> 1");
+    }
+
+    static void promise20AcrossFromLaterFields() {
+        Told.of("plain 4 1;glyph a 1;glyph b 2;word ab 3;hill h all;law eat 0;").ask("stack 0 256 -> true",
+            "pays 0 0 -> 295", "pays 0 2 -> 1", "pays 0 3 -> 0", "stack 1 256 -> true", "pays 0 2 -> 2", "pays 0 3 -> 0",
+            "stack 2 256 -> true").refuse("pays 0 0" + NOTHING);
     }
 
     static void promise20ALossIsAnswered() {
@@ -332,6 +341,8 @@ public final class PlaceEdgesTest {
     static void promise22ForNothing() {
         Told.of("plain 2 1;glyph a 1;glyph b 2;word a 1;word b 1;").ask("stack 0 2 -> true", "stack 1 1 -> true",
             "shared 0 1 0 -> 0", "shared 0 1 1 -> 1", "shared 0 1 2 -> 0", "shared 0 1 5 -> 0", "shared 0 1 6 -> 0");
+        Told.of("plain 4 1;glyph a 1;glyph b 2;word a 1;word b 1;").ask("stack 0 2 -> true", "stack 1 1 -> true",
+            "stack 2 2 -> true", "stack 3 1 -> true", "shared 0 1 0 -> 0", "shared 0 1 1 -> 1", "shared 0 1 2 -> 0");
     }
 
     static void promise22ThePurseIsntAsked() {
@@ -390,10 +401,13 @@ public final class PlaceEdgesTest {
             "summer 0 3 4 1 -> 0", "summer 0 3 4 2 -> 1");
     }
 
-    static void promise23DownToo() {
+    static void promise23AtEachPlace() {
         Told.of("plain 1 2;glyph a 1;glyph b 2;word ab 3;hill h all;law eat 0;").ask("summer 0 1 2 0 -> 6");
         Told.of("plain 2 3;owner o 0 9;strip o 1 1 1 2;glyph a 1;glyph b 2;word ab 3;hill h all;law eat 1 - col;").ask(
             "summer 0 1 9 0 -> 27");
+        Told.of("plain 4 1;glyph a 1;glyph b 2;word ab 3;hill h all;law eat 0;").ask("stack 0 256 -> true",
+            "summer 0 1 2 0 -> 6", "stack 1 256 -> true", "summer 0 1 2 0 -> 6", "stack 2 256 -> true",
+            "summer 0 1 2 0 -> 0");
     }
 
     static void promise23ThePurseIsntAskedNorPaid() {

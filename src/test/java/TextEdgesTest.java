@@ -155,6 +155,8 @@ public final class TextEdgesTest {
             "law 0 -> 1", "count 6 -> 1");
         Told.of("").feed("law eat not 1 and 0 or").ask("text 22 -> -1").feed("law eat 7;").ask("text 10 -> 1", "law 0 -> 7",
             "count 6 -> 1");
+        Told.of("").feed("law eat 1<").ask("text 10 -> -1").feed("law eat 1<2;").ask("text 12 -> 1", "law 0 -> 1");
+        Told.of("").feed("law eat 1+").ask("text 10 -> -1").feed("law eat not 1;").ask("text 14 -> 1", "law 0 -> 0");
         Told.of("").feed("owner o 1 1;purse 1;#").ask("text 21 -> -1", "count 2 -> 0", "count 8 -> 100").feed(
             "owner o 1 1;purse 2;").ask("text 20 -> 2", "count 2 -> 1", "count 8 -> 2");
     }
