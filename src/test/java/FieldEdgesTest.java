@@ -100,6 +100,13 @@ public final class FieldEdgesTest {
             "read 0 0 -> 0");
     }
 
+    static void promise09FromNoneToNineGlyphs() {
+        Told.of("glyph a 1;glyph b 2;glyph c 3;glyph d 4;glyph e 5;glyph f 6;glyph g 7;glyph h 8;glyph i 9;hill h all;").ask(
+            "stack 0 1 -> true", "read 0 0 -> 1", "stack 0 9 -> true", "read 0 0 -> 9", "stack 0 10 -> true",
+            "read 0 0 -> 0").feed("glyph a 1;hill h all;").ask("text 21 -> 2", "stack 0 1 -> true", "read 0 0 -> 1",
+            "stack 0 2 -> true", "read 0 0 -> 0", "maybe 0 9 -> 0");
+    }
+
     static void promise09OfSeveralTheFirstByGlyphs() {
         Told.of("glyph z 64;glyph a 72;glyph b 73;hill l low;hill h all;").ask("stack 0 73 -> true", "read 0 0 -> 26",
             "read 1 0 -> 2", "stack 0 64 -> true", "read 0 0 -> 26");
