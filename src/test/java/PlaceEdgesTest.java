@@ -157,6 +157,14 @@ public final class PlaceEdgesTest {
         Told.of("plain 1 1;glyph a 9;word a 1;hill t high;hill l low;").ask("life 0 0 0 0 -> 1", "life 0 0 0 1 -> 2");
     }
 
+    static void promise19AtEachPlace() {
+        Told hay = Told.of("plain 4 3;glyph a 1;glyph b 2;glyph c 4;word abc 1;hill h all;law eat 0;");
+        for (int field = 0; field < 12; field++) {
+            hay.ask("life 0 " + field + " 0 0 -> " + (field % 4 < 2 ? 99 : -2),
+                "life 0 " + field + " 1 0 -> " + (field < 4 ? 99 : -2));
+        }
+    }
+
     static void promise19CutOnItsDay() {
         String plain = "plain 1 1;owner o 1 3;strip o 0 0 0 0;glyph a 1;word a 1;hill h all;law eat 0;";
         Told.of(plain).ask("life 0 0 0 0 -> 4", "days 2 -> 2", "life 0 0 0 0 -> 2", "days 1 -> 3", "life 0 0 0 0 -> 1",
